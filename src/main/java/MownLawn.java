@@ -1689,10 +1689,10 @@ public final class MownLawn {
 
     /** What was TOLD, and the BLADES: a guess is a sign, a place and how many weeks ago. */
     private static final class Clues {
-        private static final int AGES = 31;
+        private static final int AGES = MOST_AGO + 1;
         private static final int PLACES_ACROSS = 6;
         private static final int PLACES = 24;
-        private static final int GUESSES = 2976;
+        private static final int GUESSES = MOST_SIGNS * PLACES * AGES;
         private static final int BITS = 7;
 
         final Gardener gardener;
@@ -1703,7 +1703,6 @@ public final class MownLawn {
         // The lawn to which nothing was done since the text's begin, at its week; its heights in the last weeks.
         final Lawn bare = new Lawn();
         final int[][] bareHigh = new int[AGES][CELLS];
-        int bareWeek = NONE;
         // How high all would be now: a long for each guess and row, BITS for each cell.
         final long[] outcome = new long[GUESSES * MOST_ROWS];
         int outcomeWeek = NONE;
@@ -1723,8 +1722,8 @@ public final class MownLawn {
 
         void clear() {
             told = 0;
-            bareWeek = NONE;
             outcomeWeek = NONE;
+            beginBare();
         }
 
         int add(int x, int y, int high) {
@@ -1827,16 +1826,19 @@ public final class MownLawn {
             outcomeWeek = week;
         }
 
+        private void beginBare() {
+            bare.begin(gardener.plan);
+            System.arraycopy(bare.high, 0, bareHigh[0], 0, CELLS);
+        }
+
         private void growBare(int week) {
-            if (bareWeek == NONE || bareWeek > week) {
-                bare.begin(gardener.plan);
-                System.arraycopy(bare.high, 0, bareHigh[0], 0, CELLS);
+            if (bare.week > week) {
+                beginBare();
             }
             for (int w = bare.week; w < week; w++) {
                 gardener.growWeek(bare, gardener.plan.seed);
                 System.arraycopy(bare.high, 0, bareHigh[bare.week % AGES], 0, CELLS);
             }
-            bareWeek = week;
         }
 
         /** Lets a guess grow till now; once nothing of it is other than on the bare lawn, nothing will be. */

@@ -98,7 +98,18 @@ public final class PromisesTest {
             filler), 20);
         due("3: back(20)", x.back(20), 0);
         due("3: nothing is left", x.read(), 0);
-        due("3: no row", x.count(1), 0);
+        Check.feed(x, "seed 1; row abcdefgh");
+        due("3: back(6)", x.back(6), 14);
+        due("3: what went is not read", x.read(), 1);
+        due("3: what went is not read", x.place(), 14);
+        Check.feed(x, "row abcdefgh; seed 1");
+        x.back(8);
+        Check.feed(x, "; height 1234");
+        x.back(3);
+        Check.feed(x, ";");
+        due("3: what went is not read", x.read(), 0);
+        due("3: one row", x.count(0), 8);
+        due("3: height 1", x.cell(0, 0, 0), 1);
     }
 
     private static void promises4And5() {
@@ -174,6 +185,8 @@ public final class PromisesTest {
         worth("tall - (tall - (tall - (tall - (tall - (tall - 1)))))", 1);
         // 9 - 30 is -21; 8 / -21 is 0; 6 * 7 is 42; 4 * (5 - 42) is -148; 2 * -145 is -290.
         worth("(1 + 2 * (3 + 4 * (5 - 6 * (7 - 8 / (9 - 10 * (1 + 2)))))) / 100", -2);
+        worth("if 1 < 0 then 1 else if 2 < 1 then 2 else if 3 < 2 then 3 else if 4 < 3 then 4 else"
+            + " 1 + 1 * (1 + 1 * (1 + 1 * (1 + 1 * (1 + 1 * (1 + 1 * (1 + 1 * 1))))))", 8);
         worth("1 / 0", 0);
         worth("5 + 1 / 0", 0);
         worth("5 + 0 * (1 / 0)", 0);
@@ -608,6 +621,17 @@ public final class PromisesTest {
         far.cut(0, 1, 0);
         due("21: sinks", far.gone(0, 1, 0), 5);
         due("21: the middle", far.care(0, 1, 0), 12);
+        MownLawn late = Check.lawn("row ccc; row ccc; row ccc; sign dot xxx xox xxx; window a 0 2 1; height 1;"
+            + " grows = if 0 < food then 9 else if tall < 1 then (week + 1) / 99 else 0;");
+        late.cut(0, 0, 0);
+        due("21: gone as late as can be", late.gone(0, 0, 0), 99);
+        due("21: never is later still", late.care(0, 0, 0), 11);
+        // The one that is left has less sun, and sinks.
+        MownLawn two = Check.lawn("row ccccc; row ccbcc; row ccccc; sign dot xxx xox xxx; window a 1 3 1; height 30;"
+            + " grows = if 0 < food then 9 else sun - 2;");
+        two.cut(0, 1, 0);
+        due("21: sinks by 1 a week", two.gone(0, 1, 0), 30);
+        due("21: later by food", two.care(0, 1, 0), 12);
     }
 
     private static void promise22() {
@@ -787,6 +811,21 @@ public final class PromisesTest {
         x.tell(1, 1, 13);
         due("30: not the left dot", x.blades(1), 12);
         due("32: the right one", x.ask(1), 12);
+        // Each of the three finds its own way to the week that it is.
+        x.weeks(1);
+        due("32: in week 4", x.ask(0), 11);
+        x.weeks(1);
+        due("31: in week 5", x.sure(0, 2), 0);
+        x.forget();
+        x.tell(1, 1, 4);
+        due("31: in week 5, cut 4 ago", x.sure(1, 3), 4);
+        x.undo();
+        due("31: in week 4, cut 4 ago", x.sure(1, 3), 4);
+        x.tell(2, 1, 14);
+        x.undo();
+        due("31: in week 3, none", x.sure(1, 3), -2);
+        x.forget();
+        x.tell(1, 1, 13);
         // What was done by hand is nothing to the BLADES.
         x.mow(0);
         due("30: from the text's begin on nothing else being done", x.blades(1), 12);
