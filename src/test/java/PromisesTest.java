@@ -38,6 +38,7 @@ public final class PromisesTest {
         promise27();
         promises28And29();
         promises30To32();
+        replayed();
         promises33And34();
         promise35();
         Check.end();
@@ -86,7 +87,9 @@ public final class PromisesTest {
         due("3: back(2000)", x.back(2000), -1);
         due("3: back(least)", x.back(LOW), -1);
         due("3: back(greatest)", x.back(TOP), -1);
-        due("3: back(19)", x.back(19), 1980);
+        due("3: back(18)", x.back(18), 1981);
+        due("2: feed of one byte too much", x.feed(filler, filler, filler, filler, filler), -1);
+        due("3: back(1)", x.back(1), 1980);
         due("2: feed again", x.feed(filler, filler, filler, filler, filler), 2000);
         due("2: the blanks are a text", x.read(), 0);
         due("2: the tape is empty then", x.count(8), 0);
@@ -843,6 +846,8 @@ public final class PromisesTest {
         x.weeks(1);
         due("30: in week 4", x.blades(0), 20);
         due("30: in week 4, 31 high", x.blades(1), 0);
+        MownLawn first = Check.lawn("row cccc; row cccc; row cccc; sign dot ooo oxo ooo;");
+        due("32: ahead of all else", first.ask(0), 11);
         MownLawn paved = Check.lawn("row pccc; row cccc; row cccc; sign dot ooo oxo ooo;");
         paved.tell(0, 0, 0);
         due("30: paved is 0 high", paved.blades(1), 2);
@@ -852,6 +857,38 @@ public final class PromisesTest {
         due("30: no place", small.blades(0), 0);
         due("31: no place", small.sure(0, 0), -2);
         due("32: no place", small.ask(0), -2);
+    }
+
+    /** What was truly cut, once, is among the BLADES when all of the lawn was measured. */
+    private static void replayed() {
+        String[] laws = {"sun - 1", "if tall < beside then 2 else 0", "(beside - tall) / 3", "beside - tall + wet",
+            "if beside < 20 then 0 - 1 else across - down", "if tall < 12 then 1 + wet else 0 - beside / 9",
+            "(beside - tall) / 2 - wet", "if beside < tall then 0 - 2 else 1"};
+        for (String law : laws) {
+            for (int which = 0; which < 120; which++) {
+                int ago = which % 10;
+                int x = which % 3;
+                int y = which / 3 % 2;
+                int sign = which / 6 % 2;
+                MownLawn lawn = Check.lawn("row bcbdc; row ccpcb; row dbccd; row cbcbc; sign s xoo oxo ooo;"
+                    + " sign t ooo oox oxo; height 15; rain 50 2; seed 5; grows = " + law + ";");
+                lawn.weeks(9 - ago);
+                lawn.cut(sign, x, y);
+                lawn.weeks(ago);
+                for (int i = 0; i < 20; i++) {
+                    lawn.tell(i % 5, i / 5, lawn.cell(i % 5, i / 5, 0));
+                }
+                int found = lawn.blades(20);
+                String told = law + ", sign " + sign + " at " + x + ", " + y + ", " + ago + " weeks ago";
+                Check.due("30: " + told, found > 0, true);
+                if (found == 1) {
+                    due("31: sign: " + told, lawn.sure(20, 0), sign);
+                    due("31: X: " + told, lawn.sure(20, 1), x);
+                    due("31: Y: " + told, lawn.sure(20, 2), y);
+                    due("31: weeks ago: " + told, lawn.sure(20, 3), ago);
+                }
+            }
+        }
     }
 
     private static void promises33And34() {
