@@ -846,6 +846,15 @@ public final class PromisesTest {
         x.weeks(1);
         due("30: in week 4", x.blades(0), 20);
         due("30: in week 4, 31 high", x.blades(1), 0);
+        // Cut when all was 8 high: 1 high behind that week (8 / 5), 30 high 29 weeks later.
+        MownLawn old = Check.lawn(DOT + "height 5; grows = if tall < 1 then beside / 5 else 1;");
+        old.weeks(3);
+        old.cut(0, 0, 0);
+        old.weeks(30);
+        due("30: cut 30 weeks ago", old.cell(1, 1, 0), 30);
+        old.tell(1, 1, 30);
+        due("30: cut 30 weeks ago", old.blades(1), 1);
+        due("31: cut 30 weeks ago", old.sure(1, 3), 30);
         MownLawn first = Check.lawn("row cccc; row cccc; row cccc; sign dot ooo oxo ooo;");
         due("32: ahead of all else", first.ask(0), 11);
         MownLawn paved = Check.lawn("row pccc; row cccc; row cccc; sign dot ooo oxo ooo;");
