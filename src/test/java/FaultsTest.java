@@ -18,19 +18,11 @@ public final class FaultsTest {
     }
 
     private static void fine(String text) {
-        MownLawn lawn = new MownLawn();
-        Check.feed(lawn, text);
-        Check.due("read() of " + text, lawn.read(), 0);
-        Check.due("place() of " + text, lawn.place(), -1);
+        Check.fine(text);
     }
 
     private static void fault(int number, String marked) {
-        int place = marked.indexOf('@');
-        String text = marked.substring(0, place) + marked.substring(place + 1);
-        MownLawn lawn = new MownLawn();
-        Check.feed(lawn, text);
-        Check.due("read() of " + marked, lawn.read(), number);
-        Check.due("place() of " + marked, lawn.place(), place);
+        Check.fault(number, marked);
     }
 
     private static void tokens() {
