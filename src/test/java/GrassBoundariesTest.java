@@ -64,6 +64,10 @@ public final class GrassBoundariesTest {
         worth(three + "if 2 < 2 then 4 else 5", 5);
         worth("if 0 - 1 < 0 then 3 else 4", 3);
         worth("if tall < 7 then 3 else 4", 4);
+        worth("if 4 < 2 + 3 then 1 else 2", 1);
+        worth("if 2 + 3 < 5 then 1 else 2", 2);
+        worth("if 9 - 8 < 8 - 5 then 6 - 3 else 2 * 2", 3);
+        worth("if 9 - 5 < 8 / 2 then 6 - 3 else 2 * 2 + 1", 5);
         worth("if tall < 8 then 3 else 4", 3);
     }
 
@@ -116,6 +120,8 @@ public final class GrassBoundariesTest {
         String rest = "; grows = 0; rain 100 9; height 3;";
         MownLawn feeds = Check.lawn(THREE + "feeds = 1 + wet + beside + size" + rest);
         Check.due("nourish(1, 1): wet, beside, size", feeds.nourish(1, 1), 1);
+        feeds.weeks(1);
+        Check.due("nourish(0, 0) behind a week of rain", feeds.nourish(0, 0), 1);
         for (String var : new String[] {"tall", "sun", "wet", "food", "beside"}) {
             MownLawn fines = Check.lawn(DOT + "fines = 1 + " + var + rest);
             fines.nourish(0, 0);
@@ -321,6 +327,16 @@ public final class GrassBoundariesTest {
         }
         MownLawn none = Check.lawn("sign s xoo ooo ooo;");
         Check.due("no lawn: contrast(0, 0, 0)", none.contrast(0, 0, 0), -2000);
+        // Off the lawn all would be 0 high, as if it were cut: but no sign is there.
+        for (String sign : new String[] {"oox oox oox", "xoo xoo xoo", "xxx ooo ooo", "ooo ooo xxx", "oox oox xxx"}) {
+            MownLawn flat = Check.lawn("row cccc; row cccc; row cccc; row cccc; grows = 0; sign s " + sign + "; window w 0 7 5;");
+            Check.due(sign + ": reads(0, 0, -1)", flat.reads(0, 0, -1), 0);
+            Check.due(sign + ": best(0, 0)", flat.best(0, 0), 0);
+            Check.due(sign + ": level()", flat.level(), 99);
+            Check.due(sign + ": quiet()", flat.quiet(), 0);
+            Check.due(sign + ": knows(0, 0)", flat.knows(0, 0), -2);
+            Check.due(sign + ": year(0, 0, 1, 1)", flat.year(0, 0, 1, 1), 0);
+        }
         MownLawn last = Check.lawn(WIDE + "sign s ooo ooo oox;");
         Check.due("cut(0, 5, 3)", last.cut(0, 5, 3), 1);
         Check.due("cell(7, 5, 0)", last.cell(7, 5, 0), 0);
@@ -511,6 +527,17 @@ public final class GrassBoundariesTest {
         lawn.mow(0);
         lawn.weeks(60);
         Check.due("what is known stays so", lawn.sign(0, 1), 15);
+        // One sign is known, each of the others is learnt none the less; what was cut is grown out behind three weeks.
+        MownLawn four = Check.lawn(THREE + "sign a xoo ooo ooo; sign b oxo ooo ooo; sign c oox ooo ooo; sign d ooo xoo ooo;"
+            + " window w 0 2 10; grows = if tall < 20 then 9 else 0;");
+        int bits = 0;
+        for (int sign : new int[] {2, 1, 3, 0}) {
+            four.cut(sign, 0, 0);
+            four.weeks(1);
+            bits |= 1 << sign;
+            Check.due("learnt " + sign, four.window(0, 3), bits);
+            four.weeks(2);
+        }
         // Read as a week ends, not as it begins: grown out within the first one.
         MownLawn quick = Check.lawn(DOT + "window a 0 2 1; height 9; grows = if tall < 9 then 9 else 0;");
         quick.cut(0, 0, 0);

@@ -145,6 +145,18 @@ public final class QuestionBoundariesTest {
         Check.due("cut again", twice.when(0, 0, 0, 2, 5), 0);
         twice.weeks(3);
         Check.due("in week 3", twice.when(0, 0, 0, 4, 5), 1);
+        // All grows by 1 a week from 0 on: what is left is 10 higher if it is cut in week 10, or later.
+        MownLawn young = Check.lawn(DOT + "window a 0 2 10; height 0; grows = if week < 30 then 1 else 2 * across * (2 - across)"
+            + " - 1;");
+        Check.due("till it is high enough", young.when(0, 0, 0, 30, 60), 10);
+        Check.due("never high enough", young.when(0, 0, 0, 9, 60), -2);
+        // The middle sinks or grows by the week: gone in 2 and 3 alone, read again from 4 on.
+        MownLawn again = Check.lawn(DOT + "window a 0 2 20; grows = if week < 1 then 0 else if week < 2 then 5 * (across *"
+            + " (2 - across) * down * (2 - down)) else if week < 3 then 0 else 0 - 5 * (across * (2 - across) * down"
+            + " * (2 - down));");
+        Check.due("gone in 2", again.when(0, 0, 0, 1, 2), 0);
+        Check.due("gone in 3", again.when(0, 0, 0, 1, 3), 0);
+        Check.due("read again in 4", again.when(0, 0, 0, 1, 4), -2);
         MownLawn never = Check.lawn(DOT + "window a 0 2 9; grows = 0;");
         Check.due("never gone", never.when(0, 0, 0, 0, 60), -2);
         MownLawn unread = Check.lawn(DOT + "window a 0 2 21; grows = 0;");
@@ -182,6 +194,19 @@ public final class QuestionBoundariesTest {
         Check.due("X 1 + 2 is not seen up to 2", sees.cuts(1, 0, 1, 0), -2);
         Check.due("X 1 is seen", sees.cuts(0, 0, 1, 0), 1);
         Check.due("X 0 is seen", sees.cuts(1, 0, 0, 0), 1);
+        // Each of the nine counts, as the least one that is left, and as one that is too tall.
+        for (int i = 0; i < 9; i++) {
+            StringBuilder cells = new StringBuilder("ooooooooo");
+            cells.setCharAt((i + 1) % 9, 'x');
+            cells.setCharAt((i + 4) % 9, 'x');
+            MownLawn low = Check.lawn(THREE + "sign s " + cells.substring(0, 3) + " " + cells.substring(3, 6) + " "
+                + cells.substring(6) + "; window a 0 2 5;");
+            Check.due("left, " + i, low.cuts(0, 0, 0, 0), 2);
+            low.graze((i + 1) % 9 % 3, (i + 1) % 9 / 3);
+            Check.due("one is cut, " + i, low.cuts(0, 0, 0, 0), 1);
+            low.graze(i % 3, i / 3);
+            Check.due("the one at " + i + " is too low", low.cuts(0, 0, 0, 0), -2);
+        }
         MownLawn paved = Check.lawn("row ppp; row pcp; row ppp; sign s xxx xox xxx; sign t ooo oxo ooo; window a 0 2 9;");
         Check.due("PAVED ones need no cut", paved.cuts(0, 0, 0, 0), 0);
         Check.due("PAVED ones that are left", paved.cuts(0, 1, 0, 0), -2);
@@ -319,6 +344,10 @@ public final class QuestionBoundariesTest {
         Check.due("99 or higher, 60", lawn.all(60, 3, 99), 2);
         Check.due("all, 61", lawn.all(61, 2, 0), -1);
         Check.due("all, -1", lawn.all(-1, 2, 0), -1);
+        MownLawn last = Check.lawn("row abc; row aad; row aaa; row aae;");
+        Check.due("where: the last of all", last.all(1, 1, 0), 32);
+        Check.due("how high: the last of all", last.all(1, 0, 0), 24);
+        Check.due("without sun", last.all(1, 3, 20), 12);
         MownLawn zero = Check.lawn("row pc; row cc; height 0; grows = 0;");
         Check.due("0 high: a PAVED one comes first", zero.all(9, 1, 0), 0);
         Check.due("0 high", zero.all(9, 0, 0), 0);
@@ -432,6 +461,29 @@ public final class QuestionBoundariesTest {
         lawn.weeks(60);
         lawn.weeks(60);
         Check.due("week 149, 30 weeks ago", lawn.sure(1, 3), 30);
+        // Cut when all was 8 high: 1 high behind that week (8 / 5), 30 high 29 weeks later.
+        MownLawn old = Check.lawn("row aaa; row aaa; row aaa; sign dot ooo oxo ooo; height 5;"
+            + " grows = if tall < 1 then beside / 5 else 1;");
+        old.weeks(33);
+        old.tell(1, 1, 30);
+        Check.due("30 weeks ago, by how all was then", old.blades(1), 1);
+        Check.due("30 weeks ago, by how all was then", old.sure(1, 3), 30);
+        // Back and forth in time.
+        MownLawn time = Check.lawn(DOT + "height 0; grows = if tall < week then 1 else 0;");
+        for (int week : new int[] {0, 2, 5, 40, 41, 100}) {
+            time.weeks(Math.max(0, Math.min(60, week - time.count(4))));
+            if (time.count(4) < week) {
+                time.weeks(week - time.count(4));
+            }
+            bladesAt(time);
+        }
+        time.undo();
+        time.undo();
+        bladesAt(time);
+        time.undo();
+        bladesAt(time);
+        time.undo();
+        bladesAt(time);
         MownLawn most = Check.lawn(WIDE + "sign a xoo ooo ooo; sign b oxo ooo ooo; sign c oox ooo ooo; sign d ooo xoo ooo;");
         most.weeks(60);
         Check.due("4 signs, 24 PLACES, 31 weeks", most.blades(0), 4 * 24 * 31);
@@ -439,7 +491,47 @@ public final class QuestionBoundariesTest {
         Check.due("no PLACE", Check.lawn("row cc; row cc; row cc; sign a xxx ooo xxx;").blades(0), 0);
     }
 
+    /** What stands at (0, 0) is all the same for each guess: as high as it is on this lawn, to which nothing was done. */
+    private static void bladesAt(MownLawn lawn) {
+        int week = lawn.count(4);
+        lawn.forget();
+        lawn.tell(0, 0, lawn.cell(0, 0, 0));
+        Check.due("week " + week, lawn.blades(1), Math.min(31, week + 1));
+        lawn.tell(1, 1, 0);
+        Check.due("week " + week + ", cut", lawn.blades(2) > 0, true);
+    }
+
+    /** What was truly cut, at each end of the lawn, is among the BLADES; beside spreads it, but not off the lawn. */
+    private static void cutAtTheEnds() {
+        for (int where : new int[] {0, 5, 30, 35, 12}) {
+            for (int ago = 0; ago < 7; ago++) {
+                MownLawn lawn = Check.lawn("row abcdefgh; row bcdefghi; row cdefghij; row defghijk; row efghijkl; row fghijklm;"
+                    + "sign s xxx xox xxx; height 40; grows = (beside - tall) / 3 - sun / 4 + wet; rain 40 3; seed 12;");
+                lawn.weeks(6 - ago);
+                lawn.cut(0, where % 10, where / 10);
+                lawn.weeks(ago);
+                for (int i = 0; i < 20; i++) {
+                    int x = Math.min(7, where % 10 + i % 5 - 1);
+                    int y = Math.min(5, where / 10 + i / 5);
+                    lawn.tell(Math.max(0, x), y, lawn.cell(Math.max(0, x), y, 0));
+                }
+                String told = "cut at " + where + ", " + ago + " weeks ago: ";
+                Check.due(told + "blades(20)", lawn.blades(20), 1);
+                Check.due(told + "sure(20, 1)", lawn.sure(20, 1), where % 10);
+                Check.due(told + "sure(20, 2)", lawn.sure(20, 2), where / 10);
+                Check.due(told + "sure(20, 3)", lawn.sure(20, 3), ago);
+            }
+        }
+    }
+
     private static void nothingElse() {
+        cutAtTheEnds();
+        // 0 high at least: what sinks stays cut.
+        MownLawn sinks = Check.lawn(DOT + "height 10; grows = 0 - 1;");
+        sinks.weeks(3);
+        sinks.tell(1, 1, 0);
+        sinks.tell(0, 0, 7);
+        Check.due("what sinks stays 0 high", sinks.blades(2), 4);
         MownLawn lawn = Check.lawn(DOT + "height 10; grows = 1;");
         lawn.weeks(2);
         // None of these is among what may have been done.
@@ -514,6 +606,15 @@ public final class QuestionBoundariesTest {
         column.tell(0, 0, 10);
         column.tell(0, 1, 10);
         Check.due("t alone", column.ask(2), 2);
+        MownLawn high = Check.lawn("row cccc; row cccc; row cccc; sign dot ooo oxo ooo; height 99; grows = 0;");
+        Check.due("99 high", high.ask(0), 11);
+        MownLawn low = Check.lawn(DOT + "grows = 1;");
+        low.weeks(1);
+        Check.due("0 or 1 high", low.ask(0), 11);
+        MownLawn same = Check.lawn(WIDE + "sign a ooo ooo ooo; sign b ooo ooo ooo; sign c ooo ooo ooo; sign d ooo ooo ooo;");
+        same.weeks(60);
+        Check.due("as many as can be", same.blades(0), 4 * 24 * 31);
+        Check.due("as many as can be, all alike", same.ask(0), 0);
         MownLawn paved = Check.lawn("row pcc; row ccc; row ccc; sign no ooo ooo ooo;");
         Check.due("all alike: a PAVED one comes first", paved.ask(0), 0);
         // At worst: (0, 0) tells one of four, any of (1, 0) (2, 0) no more; (1, 1) halves them.

@@ -155,6 +155,12 @@ public final class TextBoundariesTest {
             Check.fault(1, law + " = if 1 < @then 3 else 4;");
             Check.fault(1, law + " = if 1 < 2 then @else 4;");
             Check.fault(1, law + " = if 1 @then 3 else 4;");
+            Check.fault(1, law + " = if 1 @else 4;");
+            Check.fault(1, law + " = if 1 < 2 @else 4;");
+            Check.fault(1, law + " = if 1 < 2 @< 3 then 4 else 5;");
+            Check.fault(1, law + " = if 1 < 2 then 3 @then 4 else 5;");
+            Check.fault(1, law + " = if 1 < 2 then 3 @< 4 else 5;");
+            Check.fault(1, law + " = if 1 < 2 then 3 else 4 @else 5;");
             Check.fault(1, law + " = if 1 < 2 then 3@;");
             Check.fault(1, law + " = if 1 < 2 then @if 1 < 2 then 3 else 4 else 5;");
             Check.fault(1, law + " = 1 @if 1 < 2 then 3 else 4;");
@@ -472,6 +478,11 @@ public final class TextBoundariesTest {
             Check.fault(2, law + " = " + ARM.repeat(4) + "@if");
         }
         Check.fine("grows = " + ARM.repeat(4) + "5; grows = " + ARM.repeat(4) + "5; feeds = " + ARM.repeat(4) + "5;");
+        // Four ifs, and six brackets within one another in each of their Es.
+        String deep = "1+1*(1+1*(1+1*(1+1*(1+1*(1+1*(1+1*1))))))";
+        MownLawn most = Check.lawn("row c; grows = if 8<" + deep + " then 1 else if " + deep + "<8 then 2 else if 3<2 then "
+            + deep + " else if 9<" + deep + " then 4 else " + deep + ";");
+        Check.due("all limits at once", most.cell(0, 0, 3), 8);
         Check.fault(1, "grows = " + ARM.repeat(4) + "(@if 1 < 2 then 3 else 5);");
         Check.fault(1, "grows = " + ARM.repeat(4) + "1 @if 1 < 2 then 3 else 5;");
     }
@@ -572,6 +583,41 @@ public final class TextBoundariesTest {
         Sentences.of("Promise 4", "I", "else it is in place of the one ahead: week 0, GRASS of HEIGHT, no food, nothing cut"
             + " yet, nobody knows anything; nothing can be undone, nothing is TOLD, SLOTS hold nothing.",
             TextBoundariesTest::inPlaceOfTheOneAhead);
+        Sentences.of("Promise 4", "I", "else it is in place of the one ahead:", TextBoundariesTest::oneAfterTheOther);
+    }
+
+    /** Nothing is left over of any text that was read earlier, with a fault or without. */
+    private static void oneAfterTheOther() {
+        String[] texts = {
+            "row ccc; row ccc; row ccc; sign s xxx oox oxo; sign t oxo ooo ooo; window a 0 2 3; window b 1 2 9; window c 0 1 2;"
+                + " talk a b; talk b c; seed 77; rain 50 9; height 44; grows = (1 + (2 * (3 - 2))); feeds = 5; fines = 6;",
+            "row ddd; row ddd; row ddd; row ddd; sign s ooo oxo ooo; window a 0 2 3; window b 0 2 3; rain 50 9;",
+            "rain 50 9; window a 0 7 0; window b 0 7 0;",
+            "",
+            "row ppp; row pap; row ppp; sign s xoo oxo oox; window a 0 2 0; seed 3; rain 60 1; grows = wet;",
+            "row b; rain 50 9; height 0;",
+            "row bbb; row bbb; row bbb; sign s ooo ooo ooo; seed 9999; rain 50 9;"};
+        String[] wrong = {"grows = ((((1 + 2 *", "grows = if 1 < 2 * (3 + 4 then", "talk a b;", "row ccc; row cc;", "feeds = 9; ?",
+            "window a 0 2 3; sign a xxx xxx xxx;", "rain 101 9; seed 5;"};
+        MownLawn lawn = new MownLawn();
+        for (int i = 0; i < 30; i++) {
+            if (i % 3 == 0) {
+                lawn = new MownLawn();
+            }
+            Check.feed(lawn, wrong[i * 5 % wrong.length]);
+            Check.due("read() of " + wrong[i * 5 % wrong.length], lawn.read() > 0, true);
+            String text = texts[i * 3 % texts.length];
+            Check.feed(lawn, text);
+            Check.due("read() of " + text, lawn.read(), 0);
+            MownLawn fresh = Check.lawn(text);
+            Check.same("like the first text: " + text, Seen.of(lawn), Seen.of(fresh));
+            lawn.weeks(2);
+            fresh.weeks(2);
+            lawn.cut(0, 0, 0);
+            fresh.cut(0, 0, 0);
+            Check.same("fed: " + text, "" + lawn.nourish(0, 0), "" + fresh.nourish(0, 0));
+            Check.same("going on: " + text, Seen.of(lawn), Seen.of(fresh));
+        }
     }
 
     private static MownLawn used() {
