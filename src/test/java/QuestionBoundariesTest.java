@@ -468,6 +468,11 @@ public final class QuestionBoundariesTest {
         old.tell(1, 1, 30);
         Check.due("30 weeks ago, by how all was then", old.blades(1), 1);
         Check.due("30 weeks ago, by how all was then", old.sure(1, 3), 30);
+        // 0 high at first: what is cut later is not as it was then.
+        MownLawn young = Check.lawn(DOT + "height 0; grows = 1;");
+        young.weeks(9);
+        young.tell(1, 1, 2);
+        Check.due("HEIGHT 0, cut 2 weeks ago", young.sure(1, 3), 2);
         // Back and forth in time.
         MownLawn time = Check.lawn(DOT + "height 0; grows = if tall < week then 1 else 0;");
         for (int week : new int[] {0, 2, 5, 40, 41, 100}) {
@@ -503,25 +508,33 @@ public final class QuestionBoundariesTest {
 
     /** What was truly cut, at each end of the lawn, is among the BLADES; beside spreads it, but not off the lawn. */
     private static void cutAtTheEnds() {
+        String[] lawns = {"row abcdefgh; row bcdefghi; row cdefghij; row defghijk; row efghijkl; row fghijklm;",
+            "row hgfedcba; row ihgfedcb; row jihgfedc; row kjihgfed; row lkjihgfe; row mlkjihgf;",
+            "row fghijklm; row efghijkl; row defghijk; row cdefghij; row bcdefghi; row abcdefgh;",
+            "row mlkjihgf; row lkjihgfe; row kjihgfed; row jihgfedc; row ihgfedcb; row hgfedcba;"};
         for (int where : new int[] {0, 5, 30, 35, 12}) {
-            for (int ago = 0; ago < 7; ago++) {
-                MownLawn lawn = Check.lawn("row abcdefgh; row bcdefghi; row cdefghij; row defghijk; row efghijkl; row fghijklm;"
-                    + "sign s xxx xox xxx; height 40; grows = (beside - tall) / 3 - sun / 4 + wet; rain 40 3; seed 12;");
-                lawn.weeks(6 - ago);
-                lawn.cut(0, where % 10, where / 10);
-                lawn.weeks(ago);
-                for (int i = 0; i < 20; i++) {
-                    int x = Math.min(7, where % 10 + i % 5 - 1);
-                    int y = Math.min(5, where / 10 + i / 5);
-                    lawn.tell(Math.max(0, x), y, lawn.cell(Math.max(0, x), y, 0));
-                }
-                String told = "cut at " + where + ", " + ago + " weeks ago: ";
-                Check.due(told + "blades(20)", lawn.blades(20), 1);
-                Check.due(told + "sure(20, 1)", lawn.sure(20, 1), where % 10);
-                Check.due(told + "sure(20, 2)", lawn.sure(20, 2), where / 10);
-                Check.due(told + "sure(20, 3)", lawn.sure(20, 3), ago);
+            for (int i = 0; i < 28; i++) {
+                cutAt(lawns[i / 7], where, i % 7);
             }
         }
+    }
+
+    private static void cutAt(String rows, int where, int ago) {
+        MownLawn lawn = Check.lawn(rows + "sign s xxx xox xxx; height 40; rain 40 3; seed 12;"
+            + " grows = (beside - tall) / 3 - sun / 4 + wet;");
+        lawn.weeks(6 - ago);
+        lawn.cut(0, where % 10, where / 10);
+        lawn.weeks(ago);
+        for (int i = 0; i < 20; i++) {
+            int x = Math.max(0, Math.min(7, where % 10 + i % 5 - 1));
+            int y = Math.min(5, where / 10 + i / 5);
+            lawn.tell(x, y, lawn.cell(x, y, 0));
+        }
+        String told = rows + " cut at " + where + ", " + ago + " weeks ago: ";
+        Check.due(told + "blades(20)", lawn.blades(20), 1);
+        Check.due(told + "sure(20, 1)", lawn.sure(20, 1), where % 10);
+        Check.due(told + "sure(20, 2)", lawn.sure(20, 2), where / 10);
+        Check.due(told + "sure(20, 3)", lawn.sure(20, 3), ago);
     }
 
     private static void nothingElse() {

@@ -599,24 +599,25 @@ public final class TextBoundariesTest {
             "row bbb; row bbb; row bbb; sign s ooo ooo ooo; seed 9999; rain 50 9;"};
         String[] wrong = {"grows = ((((1 + 2 *", "grows = if 1 < 2 * (3 + 4 then", "talk a b;", "row ccc; row cc;", "feeds = 9; ?",
             "window a 0 2 3; sign a xxx xxx xxx;", "rain 101 9; seed 5;"};
-        MownLawn lawn = new MownLawn();
-        for (int i = 0; i < 30; i++) {
-            if (i % 3 == 0) {
-                lawn = new MownLawn();
+        for (int i = 0; i < texts.length * texts.length; i++) {
+            MownLawn lawn = new MownLawn();
+            String last = texts[i % texts.length];
+            for (String text : new String[] {texts[i / texts.length], texts[i * 3 % texts.length], last}) {
+                String other = wrong[(i + text.length()) % wrong.length];
+                Check.feed(lawn, other);
+                Check.due("read() of " + other, lawn.read() > 0, true);
+                Check.feed(lawn, text);
+                Check.due("read() of " + text, lawn.read(), 0);
+                lawn.blades(0);
             }
-            Check.feed(lawn, wrong[i * 5 % wrong.length]);
-            Check.due("read() of " + wrong[i * 5 % wrong.length], lawn.read() > 0, true);
-            String text = texts[i * 3 % texts.length];
-            Check.feed(lawn, text);
-            Check.due("read() of " + text, lawn.read(), 0);
-            MownLawn fresh = Check.lawn(text);
-            Check.same("like the first text: " + text, Seen.of(lawn), Seen.of(fresh));
+            MownLawn fresh = Check.lawn(last);
+            Check.same("like the first text: " + last, Seen.of(lawn), Seen.of(fresh));
             lawn.weeks(2);
             fresh.weeks(2);
             lawn.cut(0, 0, 0);
             fresh.cut(0, 0, 0);
-            Check.same("fed: " + text, "" + lawn.nourish(0, 0), "" + fresh.nourish(0, 0));
-            Check.same("going on: " + text, Seen.of(lawn), Seen.of(fresh));
+            Check.due("nourish(0, 0): " + last, lawn.nourish(0, 0), fresh.nourish(0, 0));
+            Check.same("going on: " + last, Seen.of(lawn), Seen.of(fresh));
         }
     }
 
