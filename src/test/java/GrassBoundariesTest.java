@@ -325,8 +325,22 @@ public final class GrassBoundariesTest {
                     Math.max(0, width - 2) * Math.max(0, rows - 2));
             }
         }
-        MownLawn none = Check.lawn("sign s xoo ooo ooo;");
-        Check.due("no lawn: contrast(0, 0, 0)", none.contrast(0, 0, 0), -2000);
+        // Without a PLACE nothing is read, however small the lawn is.
+        for (String rows : new String[] {"", "row c; ", "row cc; row cc; ", "row c; row c; row c; ", "row ccc; row ccc; ",
+            "row cccccccc; ", "row c; row c; row c; row c; row c; row c; "}) {
+            MownLawn small = Check.lawn(rows + "sign s xoo ooo ooo; window w 0 7 0;");
+            Check.due(rows + "contrast(0, 0, 0)", small.contrast(0, 0, 0), -2000);
+            Check.due(rows + "reads(0, 0, -1)", small.reads(0, 0, -1), 0);
+            Check.due(rows + "reads(0, 0, 0)", small.reads(0, 0, 0), -1);
+            Check.due(rows + "best(0, 0)", small.best(0, 0), -2000);
+            Check.due(rows + "level()", small.level(), 99);
+            Check.due(rows + "quiet()", small.quiet(), 0);
+            Check.due(rows + "knows(0, 0)", small.knows(0, 0), -2);
+            Check.due(rows + "year(0, 0, 1, 2)", small.year(0, 0, 1, 2), 0);
+            Check.due(rows + "weeks(2)", small.weeks(2), 2);
+            Check.due(rows + "blades(0)", small.blades(0), 0);
+            Check.due(rows + "ask(0)", small.ask(0), -2);
+        }
         // Off the lawn all would be 0 high, as if it were cut: but no sign is there.
         for (String sign : new String[] {"oox oox oox", "xoo xoo xoo", "xxx ooo ooo", "ooo ooo xxx", "oox oox xxx"}) {
             MownLawn flat = Check.lawn("row cccc; row cccc; row cccc; row cccc; grows = 0; sign s " + sign + "; window w 0 7 5;");
