@@ -14,33 +14,24 @@ import java.util.regex.Pattern;
 
 /** The rules of ../shared/LANGUAGE.md that can be seen in the source's text or by reflection; and the document's face. */
 public final class LanguageTest {
-    private static final String FACE = "int feed(int a, int b, int c, int d, int e); int back(int n); int read();"
-        + " int place(); int cell(int x, int y, int what); int sign(int sign, int what); int window(int window, int what);"
-        + " int contrast(int sign, int x, int y); int reads(int window, int sign, int i); int cut(int sign, int x, int y);"
-        + " int graze(int x, int y); int nourish(int x, int y); int mow(int height); int weeks(int n); boolean undo();"
-        + " int best(int sign, int what); int gone(int sign, int x, int y);"
-        + " int when(int sign, int x, int y, int d, int e); int cuts(int window, int sign, int x, int y);"
-        + " int care(int sign, int x, int y); int level(); int quiet(); int knows(int window, int sign);"
-        + " int then(int x, int y, int n); int all(int n, int what, int h); int year(int window, int sign, int n, int s);"
-        + " int tell(int x, int y, int high); int forget(); int blades(int k); int sure(int k, int what); int ask(int k);"
-        + " boolean hold(int slot); boolean restore(int slot); int count(int what)";
-
     private LanguageTest() { }
 
     public static void main(String[] args) throws IOException {
-        face();
+        String source = Files.readString(Path.of("src/main/java/MownLawn.java"));
+        face(Files.readString(Path.of("../shared/DOC.md")), source);
         members();
-        source(Files.readString(Path.of("src/main/java/MownLawn.java")));
+        source(source);
         Check.end();
     }
 
-    private static void face() {
+    private static void face(String document, String source) {
         Set<String> due = new TreeSet<>();
-        for (String one : FACE.split(";")) {
-            Matcher m = Pattern.compile("\\s*(\\w+) (\\w+)\\((.*)\\)").matcher(one);
-            Check.due("a line of the face: " + one, m.matches(), true);
-            due.add(m.group(1) + ' ' + m.group(2) + ' ' + (m.group(3).isEmpty() ? 0 : m.group(3).split(",").length));
+        Matcher line = Pattern.compile("\n    (public (int|boolean) (\\w+)\\((.*)\\));").matcher(document);
+        while (line.find()) {
+            Check.due("the source has " + line.group(1), source.contains("\n    " + line.group(1) + " {\n"), true);
+            due.add(line.group(2) + ' ' + line.group(3) + ' ' + (line.group(4).isEmpty() ? 0 : line.group(4).split(",").length));
         }
+        Check.due("the constant", source.contains("\n    public static final int NONE = -1;\n"), true);
         Set<String> found = new TreeSet<>();
         for (Method m : MownLawn.class.getDeclaredMethods()) {
             if (Modifier.isPublic(m.getModifiers())) {
